@@ -1265,6 +1265,8 @@ public final class ClothEnds {
         final Rule draft = new Rule();
         // VALUES and FACTS made of a SIGN so far
         private int parts;
+        // the kind of step of the SIGN that was read last
+        private int sign;
         // what of a TEST waits for a FACT: not, [, and those of and and or that bind less
         private final int[] waiting = new int[40];
         private int waits;
@@ -1317,20 +1319,30 @@ public final class ClothEnds {
         }
 
         private int clauseEnd(int place) {
-            int sign = text.byteAt(place);
-            return sign == NONE || sign == ';' ? 0 : Text.fault(place, 0);
+            int behind = text.byteAt(place);
+            return behind == NONE || behind == ';' ? 0 : Text.fault(place, 0);
         }
 
         private int readTest() {
             waits = 0;
             open = 0;
             deep = 0;
-            // each turn reads a FACT made of a SIGN
+            // each turn reads a FACT made of a SIGN, with every not and [ ahead of it
             for (int i = 0; i <= MOST_PARTS; i++) {
-                int fault = readFact();
+                int fault = readOpenings();
+                if (fault == 0) {
+                    fault = readSum();
+                }
+                if (fault == 0) {
+                    fault = readSign();
+                }
+                if (fault == 0) {
+                    fault = readSum();
+                }
                 if (fault != 0) {
                     return fault;
                 }
+                draft.append(sign, 0);
                 closeBrackets();
                 int place = text.next();
                 int word = text.readWord("and or");
@@ -1342,29 +1354,6 @@ public final class ClothEnds {
                 hold(word == 1 ? Rule.OR : Rule.AND);
             }
             return Text.fault(text.next(), 3);
-        }
-
-        /** A FACT made of a SIGN, with every not and [ ahead of it. */
-        private int readFact() {
-            int fault = readOpenings();
-            if (fault == 0) {
-                fault = readSum();
-            }
-            if (fault != 0) {
-                return fault;
-            }
-            int place = text.next();
-            int sign = readSign();
-            if (sign == NONE) {
-                return Text.fault(place, 0);
-            }
-            if (parts >= MOST_PARTS) {
-                return Text.fault(place, 3);
-            }
-            parts++;
-            fault = readSum();
-            draft.append(sign, 0);
-            return fault;
         }
 
         private int readOpenings() {
@@ -1510,24 +1499,30 @@ public final class ClothEnds {
             return kind;
         }
 
-        /** The SIGN of a FACT, or NONE, and then nothing is passed over. */
+        /** The SIGN of a FACT. */
         private int readSign() {
+            int place = text.next();
             int first = text.peek();
             if (first != '<' && first != '=' && first != '>') {
-                return NONE;
+                return Text.fault(place, 0);
             }
+            if (parts >= MOST_PARTS) {
+                return Text.fault(place, 3);
+            }
+            parts++;
             text.step();
-            if (first == '=') {
-                return Rule.SAME;
-            }
-            boolean same = text.peek() == '=';
+            boolean same = first != '=' && text.peek() == '=';
             if (same) {
                 text.step();
             }
             if (first == '<') {
-                return same ? Rule.AT_MOST : Rule.BELOW;
+                sign = same ? Rule.AT_MOST : Rule.BELOW;
+            } else if (first == '>') {
+                sign = same ? Rule.AT_LEAST : Rule.ABOVE;
+            } else {
+                sign = Rule.SAME;
             }
-            return same ? Rule.AT_LEAST : Rule.ABOVE;
+            return 0;
         }
     }
 

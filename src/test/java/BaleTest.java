@@ -10,6 +10,8 @@ public final class BaleTest {
         baskets();
         fullBasket();
         outs();
+        fullOuts();
+        shortEnds();
         check.done();
     }
 
@@ -159,5 +161,39 @@ public final class BaleTest {
         check.due("out(0)", x.out(0), -2);
         check.due("status(0)", x.status(0), 3);
         check.due("no EIGHTHS of a CUT", x.count(2), 0);
+    }
+
+    private static void fullOuts() {
+        StringBuilder shop = new StringBuilder("board 80");
+        for (int i = 0; i < 10; i++) {
+            shop.append(";bale ").append(10 + i).append(' ').append(30 + i).append(' ').append(i).append(" 1");
+        }
+        ClothEnds x = Check.with(shop + ";flaw 3 3;flaw 9 1;flaw 9 2");
+        for (int i = 0; i < 10; i++) {
+            x.basket(i);
+        }
+        check.due("out(2)", x.out(2), 12);
+        for (int i = 0; i < 9; i++) {
+            int was = i < 2 ? i : i + 1;
+            dueEnd(x, i, 10 + was, 30 + was, was, was == 3 ? 1 : was == 9 ? 2 : 0);
+        }
+        check.due("out(8)", x.out(8), 19);
+        check.due("out(8)", x.out(8), -2);
+        check.due("out(0)", x.out(0), 10);
+        dueEnd(x, 6, 18, 38, 8, 0);
+        dueEnd(x, 7, -1);
+    }
+
+    private static void shortEnds() {
+        ClothEnds x = Check.with("bale 80 1 1 1;bale 1 1 1 1;board 80;flaw 1 0");
+        dueBale(x, 1, 1, 1, 1, 1, 1, 0, 1);
+        check.due("an END of 80", x.basket(0), 1);
+        check.due("an END of 1", x.basket(1), 2);
+        dueEnd(x, 0, 80, 1, 1, 0);
+        dueEnd(x, 1, 1, 1, 1, 1);
+        ClothEnds y = Check.with("bale 81 1 1 1;bale 2 1 1 1;board 1");
+        check.due("no END of 2", y.basket(1), -2);
+        y.cut(1, 1);
+        check.due("an END of 1", y.basket(1), 1);
     }
 }

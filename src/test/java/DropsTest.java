@@ -108,6 +108,8 @@ public final class DropsTest {
         check.due("two of 4", y.seam(0, 2, 4), 3);
         y.cut(0, 1);
         check.due("nearer by one", y.seam(0, 2, 4), 2);
+        check.due("4 are too many to be cut away", Check.with("bale 12 1 0 0;flaw 0 2;flaw 0 4").seam(0, 1, 4), -2);
+        check.due("3 are not", Check.with("bale 12 1 0 0;flaw 0 2;flaw 0 3").seam(0, 1, 4), 3);
         check.due("STATUS", x.status(0) + x.status(1), 0);
     }
 }

@@ -10,6 +10,7 @@ public final class KnownTest {
         bounds();
         weights();
         which();
+        whichOfThree();
         whichRefuses();
         whichWithout();
         check.done();
@@ -73,6 +74,11 @@ public final class KnownTest {
         dueAll(known("bale 9 1 0 0;bale 6 1 0 0;thumb 2", 5), 5, 1, 1, 5);
         dueAll(known("bale 9 1 0 0;bale 7 1 0 0;thumb 2", 5), 5, 1, 2, 5);
         dueAll(known("bale 9 1 0 0;bale 7 1 0 0;thumb 2", 5, 6), 11, 2, 3, 11);
+        // of one BALE: 6, or twice 3
+        dueAll(known("bale 8 1 0 0;thumb 1", 3, 3, 6), 6, 1, 1, 8);
+        dueAll(known("bale 8 1 0 0;thumb 1", 6, 3, 3), 6, 1, 1, 8);
+        dueAll(known("bale 3 1 0 0;bale 3 1 0 0;bale 6 1 0 0", 3, 3, 6), 12, 3, 0, 12);
+        dueAll(known("bale 1 1 0 0", 1, 1), 1, 1, 0, 1);
     }
 
     private static void bounds() {
@@ -138,11 +144,29 @@ public final class KnownTest {
         dueWhich(w, 1, 4, -1, 0, 1);
     }
 
+    /** Of three BALES, by reckoning on paper. */
+    private static void whichOfThree() {
+        // 1 or 5: of 1 the fourth is 1 + 3, of 5 it is 5 + 1 / 2
+        dueWhich(weighed("bale 1 1 0 0;bale 1 1 0 0;bale 5 1 0 0", 1, 0, 0, 0, 1), 480, 2, -1, 19, 4);
+        dueWhich(weighed("bale 1 1 0 0;bale 5 1 0 0;bale 1 1 0 0", 1, 0, 0, 0, 1), 480, 2, -1, 19, 4);
+        dueWhich(weighed("bale 5 1 0 0;bale 1 1 0 0;bale 1 1 0 0", 1, 0, 0, 0, 1), 480, 2, -1, 19, 4);
+        dueWhich(weighed("bale 3 1 0 0;thumb 2", 1), 3, 1, 0, 3, 1);
+        dueWhich(weighed("bale 3 1 0 0;thumb 2", 1), 1, 3, 0, 1, 1);
+        dueWhich(weighed("bale 4 1 0 0;thumb 2", 1), 1, 3, 0, 2, 1);
+        ClothEnds x = weighed("bale 40 1 0 0;bale 40 1 0 0;bale 40 1 0 0", 1);
+        dueWhich(x, 40, 4, 0, 44, 1);
+        Check.shop(x, "bale 2 1 0 0");
+        x.weight(2, 9);
+        dueWhich(x, 3, 4, -1, 2, 1);
+    }
+
     /** Refusing can be best, and stands behind a CUT that is as good. */
     private static void whichRefuses() {
         ClothEnds x = weighed("bale 8 1 0 0", 0, 0, 0, 0, 0, 0, 0, 1);
         dueWhich(x, 1, 1, -1, 8, 1);
         dueWhich(x, 8, 1, 0, 8, 1);
+        // of 1 or 8, where a 1 takes all: 9 / 2, then 25 / 4, then 57 / 8
+        dueWhich(weighed("bale 8 1 0 0;thumb 8", 1, 0, 0, 0, 0, 0, 0, 1), 480, 3, -1, 57, 8);
         ClothEnds y = weighed("bale 9 1 0 0;bale 9 1 0 0;thumb 8", 1);
         dueWhich(y, 1, 1, 0, 2, 1);
         ClothEnds z = weighed("bale 9 1 0 0;bale 9 1 0 0;thumb 8", 0, 1);

@@ -66,6 +66,7 @@ public final class MadeTest {
     private static void pairs() {
         String two = "bale 5 1 3 0;bale 6 1 3 0;form 1 1 2";
         check.due("a PAIR", basket(two + ";pair 5 23").made(), 23);
+        check.due("a PAIR from length 1", basket("bale 1 1 3 0;bale 1 1 3 0;pair 1 23").made(), 23);
         check.due("no PAIR", basket(two + ";pair 5 21").made(), 22);
         check.due("too short", basket(two + ";pair 6 99").made(), 22);
         check.due("of one lot", basket("bale 5 1 3 0;bale 6 1 2 0;form 1 1 2;pair 1 99").made(), 22);

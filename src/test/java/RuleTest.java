@@ -8,6 +8,8 @@ public final class RuleTest {
         deep();
         many();
         sixRules();
+        oneBehindAnother();
+        twelveClauses();
         values();
         facts();
         wide();
@@ -36,6 +38,8 @@ public final class RuleTest {
         rule("give " + Check.times("[not 1=1]", 20, "and"), 0);
         rule("from " + Check.times("1", 60, "+"), 0);
         rule("give " + Check.times("1=1", 20, " or "), 0);
+        rule("from 1 + 2 * left - order", 0);
+        rule("give [ 1 = 1 ] and not [ [ 1 = 1 ] ] ", 0);
     }
 
     private static void faults() {
@@ -52,6 +56,9 @@ public final class RuleTest {
         refused("from lefts", 5, 0);
         refused("from leftorder", 5, 0);
         refused("from Left", 5, 0);
+        refused("from leftz", 5, 0);
+        refused("from lefta", 5, 0);
+        refused("from z1", 5, 0);
         refused("from left order", 10, 0);
         refused("from 1 2", 7, 0);
         refused("from 1left", 6, 0);
@@ -141,6 +148,38 @@ public final class RuleTest {
         check.due("nothing happens", x.count(10), 4);
         check.due("count(1)", x.count(1), 6);
         check.due("STATUS", x.status(0) + x.status(1) + x.status(2), 0);
+    }
+
+    /** What a text told is no part of the next one. */
+    private static void oneBehindAnother() {
+        ClothEnds x = Check.with("bale 9 1 0 0;bale 9 2 0 0;board 9");
+        for (int i = 0; i < 3; i++) {
+            check.due("60 of 60", Check.rule(x, "from " + Check.times("1", 61, "+")), Check.fault(125, 3));
+            check.due("10 deep", Check.rule(x, "give [[[[[[[[[[1=1 and [1=1"), Check.fault(23, 2));
+            check.due("a [ stays", Check.rule(x, "give [1=1"), Check.fault(9, 0));
+            check.due("a ]", Check.rule(x, "give 1=1]"), Check.fault(8, 0));
+            check.due("or and not wait", Check.rule(x, "give 1=2 or 1=2 and not z"), Check.fault(24, 0));
+            check.due("from 1; from", Check.rule(x, "from 1;give 1=1;from"), Check.fault(20, 0));
+        }
+        check.due("a not waits", Check.rule(x, "give not z"), Check.fault(9, 0));
+        check.due("rule", Check.rule(x, "from 0-width if left=9"), 0);
+        check.due("rule", Check.rule(x, "from " + Check.times("1", 60, "+")), 1);
+        check.due("its first CLAUSE is its own", x.serve(0, 2), 1);
+        check.due("nothing is GIVEN", x.count(4), 0);
+        check.due("its first CLAUSE is its own", x.serve(1, 2), 0);
+        check.due("nothing is GIVEN", x.count(4), 0);
+    }
+
+    private static void twelveClauses() {
+        ClothEnds x = Check.with("bale 9 1 0 0;bale 9 2 0 0;board 9");
+        check.due("rule", Check.rule(x, Check.times("from 0 if 1=2;", 11, "") + "from 0-width"), 0);
+        check.due("the twelfth CLAUSE", x.serve(0, 2), 1);
+        check.due("rule", Check.rule(x, "from 0;" + Check.times("give 1=2;", 10, "") + "give 1=1"), 1);
+        check.due("serve", x.serve(1, 2), 0);
+        check.due("the twelfth CLAUSE", x.count(4), 7);
+        check.due("rule", Check.rule(x, "give 1=1;" + Check.times("give 1=2;", 10, "") + "from 1"), 2);
+        check.due("serve", x.serve(2, 2), 1);
+        check.due("the first CLAUSE", x.count(4), 12);
     }
 
     /** Whether SUM is one value: by the RULE the second BALE is taken only then. */

@@ -64,6 +64,8 @@ public final class ServeTest {
         check.due("SOLD", x.count(2), 14);
         check.due("LOST", x.count(3), 2);
         check.due("BASKET", x.count(6), 0);
+        ClothEnds w = ruled("bale 9 1 0 0;bale 9 5 0 0;board 9", "from width;give width=1");
+        check.due("the WORDS are of the BALE that is CUT", w.serve(0, 2) + w.count(4), 7);
         ClothEnds y = ruled(shop, "from 0;give rest<4");
         check.due("serve", y.serve(0, 14), 0);
         check.due("GIVEN", y.count(4), 0);
@@ -127,12 +129,16 @@ public final class ServeTest {
         check.due("REFUSED", y.count(5), 35);
         check.due("status(1)", y.status(1), 35);
         check.due("status(0)", y.status(0), 0);
+        check.due("a row of one DAY", y.days(0, 1, 7, 1, 3), 7);
+        check.due("none is left", y.day(0, 3, 80), 0);
+        check.due("REFUSED", y.count(5), 38);
+        check.due("status(1)", y.status(1), 38);
         int[][] wrong = {{1, 1, 1}, {-1, 1, 1}, {0, 0, 1}, {0, 41, 1}, {0, 1, 0}, {0, 1, 81}};
         for (int i = 0; i < wrong.length; i++) {
             check.due("day", y.day(wrong[i][0], wrong[i][1], wrong[i][2]), -2);
             check.due("status(0)", y.status(0), i + 1);
         }
-        check.due("day", y.count(8), 1);
+        check.due("day", y.count(8), 2);
     }
 
     private static void dayIsAWord() {

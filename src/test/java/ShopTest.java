@@ -11,6 +11,7 @@ public final class ShopTest {
         leastOfAPlace();
         inPlaceOfAnother();
         faultChangesNothing();
+        oneBehindAnother();
         check.done();
     }
 
@@ -145,6 +146,7 @@ public final class ShopTest {
         x.entry(1, 5);
         x.level(1, 5);
         x.weight(1, 9);
+        x.weight(8, 9);
         x.day(0, 1, 1);
         x.image(3);
         int drawn = x.count(9);
@@ -157,7 +159,9 @@ public final class ShopTest {
         check.due("count(1)", x.count(1), 1);
         check.due("count(7)", x.count(7), 7);
         check.due("x", x.count(9), drawn);
-        check.due("WEIGHT", x.weight(1, 0), 0);
+        for (int n = 1; n <= 8; n++) {
+            check.due("WEIGHT", x.weight(n, 0), 0);
+        }
         for (int reason = 0; reason < 3; reason++) {
             check.due("status", x.status(reason), reasons[reason]);
         }
@@ -182,5 +186,29 @@ public final class ShopTest {
         check.due("KNOWN", x.count(11), 1);
         check.due("form", x.madeOf(5, 2, 0), 4);
         check.due("STATUS", x.status(0) + x.status(1) + x.status(2), 0);
+    }
+
+    /** What a text told is no part of the next one. */
+    private static void oneBehindAnother() {
+        ClothEnds x = Check.with("bale 20 5 1 2;bale 9 5 1 2;bale 9 5 1 2;thumb 1;board 9;askew 1;flaw 0 3;flaw 1 0;"
+            + "form 1 1 1;form 1 1 9;pair 1 99");
+        check.due("without a BALE", Check.shop(x, "thumb 2"), Check.fault(7, 0));
+        check.due("ahead of a BALE", Check.shop(x, "flaw 0 0;bale 1 1 1 1"), Check.fault(5, 1));
+        check.due("twelve", Check.shop(x, Check.times("bale 1 1 1 1", 13, ";")), Check.fault(156, 4));
+        check.due("EIGHTHS of the old one", Check.shop(x, "bale 1 1 1 1;flaw 0 3"), Check.fault(20, 1));
+        check.due("BALES", x.count(0), 3);
+        check.due("shop", Check.shop(x, "bale 5 1 1 1;bale 5 1 1 1;board 5"), 2);
+        check.due("no FLAW", x.bale(0, 4) + x.bale(1, 4), 0);
+        check.due("no thumb", x.count(14), 0);
+        check.due("no askew", x.count(15), 0);
+        check.due("no FORM", x.madeOf(9, 9, 1), -2);
+        x.basket(0);
+        x.basket(1);
+        check.due("no pair", x.made(), 0);
+        check.due("no third BALE", x.bale(2, 0), -1);
+        check.due("shop", Check.shop(x, "bale 7 1 1 1;pair 2 8;form 1 1 2;flaw 0 6;askew 4"), 1);
+        check.due("FLAW", x.bale(0, 5), 6);
+        check.due("board", x.count(16), 0);
+        check.due("FORM", x.madeOf(3, 9, 0), 6);
     }
 }

@@ -111,15 +111,23 @@ public final class StateTest {
         x.out(0);
         x.serve(0, 2);
         x.day(0, 3, 3);
+        x.known(0);
         x.known(6);
+        x.known(2);
         x.weight(2, 5);
+        x.weight(8, 1);
+        x.level(0, 0);
         x.level(9, 2);
+        x.level(2, 99);
+        x.entry(-1, 0);
         x.entry(1, 64);
+        x.entry(5, 64);
+        x.entry(0, 128);
         x.seed(99);
     }
 
     private static void allOfAnImage() {
-        ClothEnds x = Check.with("bale 30 9 1 3;bale 20 8 1 0;bale 6 7 1 2;bale 5 6 1 0;flaw 0 9;flaw 1 9;flaw 3 2;"
+        ClothEnds x = Check.with("bale 30 9 1 3;bale 20 8 2 0;bale 6 7 3 2;bale 5 6 4 0;flaw 0 9;flaw 1 9;flaw 3 2;"
             + "thumb 1;askew 2;board 6;form 2 5 4;form 3 9 9;pair 4 30");
         Check.rule(x, "from 0-left;give rest<4");
         x.weight(3, 1);

@@ -7,6 +7,7 @@ public final class TapeTest {
         feedAndEnd();
         fullTape();
         bytesInOrder();
+        cutWords();
         check.done();
     }
 
@@ -75,5 +76,29 @@ public final class TapeTest {
         check.due("a text of 400", Check.shop(x, text), 1);
         check.due("lot", x.bale(0, 2), 7);
         check.due("high bytes", Check.shop(x, "bale 1 1 1 1" + (char) 186), Check.fault(12, 0));
+    }
+
+    /** What was behind the TAPE's end is gone, though a word or NUMBER went on there. */
+    private static void cutWords() {
+        ClothEnds x = new ClothEnds();
+        Check.tape(x, "bale 1 1 1 12");
+        x.end(12);
+        check.due("shop", x.shop(), 1);
+        check.due("stripe", x.bale(0, 3), 1);
+        Check.tape(x, "from left");
+        x.end(8);
+        check.due("rule", x.rule(), Check.fault(5, 0));
+        Check.tape(x, "from lefts  +1");
+        x.end(9);
+        check.due("rule", x.rule(), 0);
+        Check.tape(x, "from  left");
+        x.end(5);
+        check.due("rule", x.rule(), Check.fault(5, 0));
+        Check.tape(x, "from 123456");
+        x.end(10);
+        check.due("rule", x.rule(), 1);
+        Check.tape(x, "give 1<=1");
+        x.end(7);
+        check.due("rule", x.rule(), Check.fault(7, 0));
     }
 }
