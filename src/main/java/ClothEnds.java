@@ -1768,13 +1768,14 @@ public final class ClothEnds {
                 if (left[i] < order) {
                     continue;
                 }
-                long sold = order * power[more] + mean(more, rest(0, i, order), rest(1, i, order), rest(2, i, order));
+                long later = mean(this, more, rest(0, i, order), rest(1, i, order), rest(2, i, order));
+                long sold = order * power[more] + later;
                 if (sold > above) {
                     bale = bales[i];
                     above = sold;
                 }
             }
-            long kept = mean(more, left[0], left[1], left[2]);
+            long kept = mean(this, more, left[0], left[1], left[2]);
             if (kept > above) {
                 bale = NONE;
                 above = kept;
@@ -1792,31 +1793,31 @@ public final class ClothEnds {
         }
 
         /** What is SOLD on the mean with so many ORDERS to come, times the power of these. */
-        private long mean(int more, int a, int b, int c) {
-            if (more <= 0) {
+        private static long mean(WhichPlan plan, int more, int a, int b, int c) {
+            if (more <= 0 || more > MOST_MORE) {
                 return 0;
             }
             if (more == 1) {
-                return last[Math.min(Told.MOST_WEIGHED, Math.max(a, Math.max(b, c)))];
+                return plan.last[Math.min(Told.MOST_WEIGHED, Math.max(a, Math.max(b, c)))];
             }
-            long kept = mean(more - 1, a, b, c);
+            long kept = mean(plan, more - 1, a, b, c);
             long all = 0;
             for (int n = 1; n <= Told.MOST_WEIGHED; n++) {
-                if (weights[n] == 0) {
+                if (plan.weights[n] == 0) {
                     continue;
                 }
                 long best = kept;
-                long sold = n * power[more - 1];
+                long sold = n * plan.power[more - 1];
                 if (a >= n) {
-                    best = Math.max(best, sold + mean(more - 1, behind(a, n), b, c));
+                    best = Math.max(best, sold + mean(plan, more - 1, plan.behind(a, n), b, c));
                 }
                 if (b >= n) {
-                    best = Math.max(best, sold + mean(more - 1, a, behind(b, n), c));
+                    best = Math.max(best, sold + mean(plan, more - 1, a, plan.behind(b, n), c));
                 }
                 if (c >= n) {
-                    best = Math.max(best, sold + mean(more - 1, a, b, behind(c, n)));
+                    best = Math.max(best, sold + mean(plan, more - 1, a, b, plan.behind(c, n)));
                 }
-                all += weights[n] * best;
+                all += plan.weights[n] * best;
             }
             return all;
         }
