@@ -33,8 +33,8 @@ public final class ClothEnds {
     private final Rule[] rules = new Rule[MOST_RULES];
     private int ruleCount;
     private final int[] refusals = new int[REASONS];
-    private final ShopReader shopReader = new ShopReader(tape);
-    private final RuleReader ruleReader = new RuleReader(tape);
+    private final ShopReader shopReader = new ShopReader();
+    private final RuleReader ruleReader = new RuleReader();
     private final Forms forms = new Forms();
     private final KnownPlan knownPlan = new KnownPlan();
     private final WhichPlan whichPlan = new WhichPlan();
@@ -72,7 +72,7 @@ public final class ClothEnds {
     }
 
     public int shop() {
-        int fault = shopReader.read();
+        int fault = shopReader.read(tape);
         tape.length = 0;
         if (fault != 0) {
             return REFUSAL - fault;
@@ -85,7 +85,7 @@ public final class ClothEnds {
         if (ruleCount >= MOST_RULES) {
             return NONE;
         }
-        int fault = ruleReader.read();
+        int fault = ruleReader.read(tape);
         tape.length = 0;
         if (fault != 0) {
             return REFUSAL - fault;
@@ -1148,24 +1148,19 @@ public final class ClothEnds {
             80, 0, 0, 0,  80, 99, 999, 0,  80, 999, 0, 0,
         };
 
-        private final Text text;
         final Shop draft = new Shop();
         private final int[] numbers = new int[MOST_NUMBERS];
         private final int[] told = new int[KIND_COUNT];
 
-        ShopReader(Text text) {
-            this.text = text;
-        }
-
         /** The draft is what the TAPE tells: 0, or the first FAULT. */
-        int read() {
+        int read(Text text) {
             draft.clear();
             for (int i = 0; i < KIND_COUNT; i++) {
                 told[i] = 0;
             }
             text.at = 0;
             for (int i = 0; i <= MOST_CLAUSES; i++) {
-                int fault = readClause(i == MOST_CLAUSES);
+                int fault = readClause(text, i == MOST_CLAUSES);
                 if (fault != 0) {
                     return fault;
                 }
@@ -1181,7 +1176,7 @@ public final class ClothEnds {
             return Text.fault(text.next(), 4);
         }
 
-        private int readClause(boolean full) {
+        private int readClause(Text text, boolean full) {
             int place = text.next();
             int kind = text.readWord(KINDS);
             if (kind == NONE) {
@@ -1261,7 +1256,6 @@ public final class ClothEnds {
         private static final int FROM = 0;
         private static final int OPEN = 15;
 
-        private final Text text;
         final Rule draft = new Rule();
         // VALUES and FACTS made of a SIGN so far
         private int parts;
@@ -1273,17 +1267,13 @@ public final class ClothEnds {
         private int open;
         private int deep;
 
-        RuleReader(Text text) {
-            this.text = text;
-        }
-
         /** The draft is what the TAPE tells: 0, or the first FAULT. */
-        int read() {
+        int read(Text text) {
             draft.clear();
             parts = 0;
             text.at = 0;
             for (int i = 0; i <= Rule.MOST_CLAUSES; i++) {
-                int fault = readClause(i == Rule.MOST_CLAUSES);
+                int fault = readClause(text, i == Rule.MOST_CLAUSES);
                 if (fault != 0) {
                     return fault;
                 }
@@ -1296,7 +1286,7 @@ public final class ClothEnds {
         }
 
         /** A CLAUSE, up to the ; or the end behind it. */
-        private int readClause(boolean full) {
+        private int readClause(Text text, boolean full) {
             int place = text.next();
             int word = text.readWord("from give");
             if (word == NONE) {
@@ -1307,48 +1297,48 @@ public final class ClothEnds {
             }
             draft.beginClause(word == FROM);
             if (word != FROM) {
-                return readTest();
+                return readTest(text);
             }
-            int fault = readSum();
+            int fault = readSum(text);
             if (fault != 0) {
                 return fault;
             }
             draft.beginTest();
             place = text.next();
-            return text.readWord("if") == NONE ? clauseEnd(place) : readTest();
+            return text.readWord("if") == NONE ? clauseEnd(text, place) : readTest(text);
         }
 
-        private int clauseEnd(int place) {
+        private int clauseEnd(Text text, int place) {
             int behind = text.byteAt(place);
             return behind == NONE || behind == ';' ? 0 : Text.fault(place, 0);
         }
 
-        private int readTest() {
+        private int readTest(Text text) {
             waits = 0;
             open = 0;
             deep = 0;
             // each turn reads a FACT made of a SIGN, with every not and [ ahead of it
             for (int i = 0; i <= MOST_PARTS; i++) {
-                int fault = readOpenings();
+                int fault = readOpenings(text);
                 if (fault == 0) {
-                    fault = readSum();
+                    fault = readSum(text);
                 }
                 if (fault == 0) {
-                    fault = readSign();
+                    fault = readSign(text);
                 }
                 if (fault == 0) {
-                    fault = readSum();
+                    fault = readSum(text);
                 }
                 if (fault != 0) {
                     return fault;
                 }
                 draft.append(sign, 0);
-                closeBrackets();
+                closeBrackets(text);
                 int place = text.next();
                 int word = text.readWord("and or");
                 if (word == NONE) {
                     settle(true);
-                    return open > 0 ? Text.fault(place, 0) : clauseEnd(place);
+                    return open > 0 ? Text.fault(place, 0) : clauseEnd(text, place);
                 }
                 settle(word == 1);
                 hold(word == 1 ? Rule.OR : Rule.AND);
@@ -1356,10 +1346,10 @@ public final class ClothEnds {
             return Text.fault(text.next(), 3);
         }
 
-        private int readOpenings() {
+        private int readOpenings(Text text) {
             for (int i = 0; i <= MOST_DEEP; i++) {
                 int place = text.next();
-                int opening = readOpening();
+                int opening = readOpening(text);
                 if (opening == NONE) {
                     return 0;
                 }
@@ -1373,7 +1363,7 @@ public final class ClothEnds {
             return 0;
         }
 
-        private int readOpening() {
+        private int readOpening(Text text) {
             if (text.peek() == '[') {
                 text.step();
                 return OPEN;
@@ -1388,7 +1378,7 @@ public final class ClothEnds {
         }
 
         /** Behind a FACT: every not that waits for it is settled, and every ] with its own. */
-        private void closeBrackets() {
+        private void closeBrackets(Text text) {
             for (int i = 0; i <= MOST_DEEP; i++) {
                 settleNots();
                 text.next();
@@ -1432,12 +1422,12 @@ public final class ClothEnds {
             }
         }
 
-        private int readSum() {
+        private int readSum(Text text) {
             int times = NONE;
             int plus = NONE;
             // each turn reads a VALUE
             for (int i = 0; i <= MOST_PARTS; i++) {
-                int fault = readValue();
+                int fault = readValue(text);
                 if (fault != 0) {
                     return fault;
                 }
@@ -1446,7 +1436,7 @@ public final class ClothEnds {
                     times = NONE;
                 }
                 text.next();
-                int kind = readBetween();
+                int kind = readBetween(text);
                 if (kind == Rule.TIMES || kind == Rule.OVER || kind == Rule.REST) {
                     times = kind;
                     continue;
@@ -1462,7 +1452,7 @@ public final class ClothEnds {
             return Text.fault(text.next(), 3);
         }
 
-        private int readValue() {
+        private int readValue(Text text) {
             int place = text.next();
             int kind = Rule.NUMBER;
             int number = text.readNumber();
@@ -1485,7 +1475,7 @@ public final class ClothEnds {
         }
 
         /** What stands between two VALUES, or NONE, and then nothing is passed over. */
-        private int readBetween() {
+        private int readBetween(Text text) {
             int kind;
             switch (text.peek()) {
                 case '*': kind = Rule.TIMES; break;
@@ -1500,7 +1490,7 @@ public final class ClothEnds {
         }
 
         /** The SIGN of a FACT. */
-        private int readSign() {
+        private int readSign(Text text) {
             int place = text.next();
             int first = text.peek();
             if (first != '<' && first != '=' && first != '>') {

@@ -124,7 +124,8 @@ public final class LanguageTest {
             check.holds("line " + (i + 1) + " keeps to the language: " + code, !barred.matcher(code).find());
             check.holds("line " + (i + 1) + " has no sign above 127", code.chars().allMatch(sign -> sign < 127));
             if (code.contains("new ")) {
-                boolean field = code.matches("\\s+(private )?final [\\w\\[\\]]+ \\w+ = new .*;");
+                // nothing of an object is handed out while it is made
+                boolean field = code.matches("\\s+(private )?final [\\w\\[\\]]+ \\w+ = new (\\w+\\(\\)|\\w+\\[.+\\]);");
                 boolean constructor = code.matches("            (images|rules)\\[i\\] = new \\w+\\(\\);");
                 check.holds("line " + (i + 1) + " makes what it needs once: " + code, field || constructor);
             }
